@@ -1139,12 +1139,9 @@ public final class LeftAlone {
             }
             token = tape[start];
             next = start + 1;
-            if (isFigure(token)) {
-                advanceOverFigures();
+            if (!isFigure(token)) {
+                return;
             }
-        }
-
-        private void advanceOverFigures() {
             value = token - '0';
             while (next < size && isFigure(tape[next])) {
                 value = (10 * value + tape[next] - '0') % 1000;
@@ -1154,7 +1151,7 @@ public final class LeftAlone {
         }
 
         private static boolean isFigure(int letter) {
-            return within(letter, '0', '9');
+            return letter >= '0' && letter <= '9';
         }
     }
 }
