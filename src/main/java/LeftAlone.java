@@ -13,6 +13,7 @@ public final class LeftAlone {
     private static final int MOST_FELT = 99, LAST_DAY = 999, FAR = 60, TOLD_DAYS = 12;
     private static final int LEAVER = 0, POINTED = 1, FAITHFUL = 2, SUBSTITUTE = 3, IDLE = 4, WET = 5;
     private static final int AS_IT_IS = 64;
+    private static final int BY_KIND = 0, BY_HOUSE = 1, BY_WEIGHT = 2;
     private static final int DEEPEST_BODY = 12;
 
     /** By KIND: the KIND that it is, too; -1 above LEAVER. */
@@ -344,60 +345,15 @@ public final class LeftAlone {
     }
 
     public int who(int leaver, int man, int row, int i, int n) {
-        if (!isLeaver(leaver)) {
-            return BAD;
-        }
-        int refusal = refusalOfTold(man, row, i, n);
-        if (refusal != 0) {
-            return refusal;
-        }
-        int kinds = 0;
-        for (int kind = POINTED; kind <= WET; kind++) {
-            trial.copyFrom(town);
-            trial.kind[leaver] = kind;
-            if (trialFits(man, rows[row], i, n)) {
-                kinds |= 1 << kind;
-            }
-        }
-        return kinds;
+        return fitting(BY_KIND, leaver, man, row, i, n);
     }
 
     public int houses(int leaver, int man, int row, int i, int n) {
-        if (!isLeaver(leaver)) {
-            return BAD;
-        }
-        int refusal = refusalOfTold(man, row, i, n);
-        if (refusal != 0) {
-            return refusal;
-        }
-        int fitting = 0;
-        for (int house = 0; house < town.men; house++) {
-            trial.copyFrom(town);
-            trial.sendTo(leaver, house);
-            if (trialFits(man, rows[row], i, n)) {
-                fitting |= 1 << house;
-            }
-        }
-        return fitting;
+        return fitting(BY_HOUSE, leaver, man, row, i, n);
     }
 
     public int weights(int leaver, int man, int row, int i, int n) {
-        if (!isLeaver(leaver)) {
-            return BAD;
-        }
-        int refusal = refusalOfTold(man, row, i, n);
-        if (refusal != 0) {
-            return refusal;
-        }
-        int fitting = 0;
-        for (int weight = 1; weight <= 9; weight++) {
-            trial.copyFrom(town);
-            trial.weight[leaver] = weight;
-            if (trialFits(man, rows[row], i, n)) {
-                fitting |= 1 << weight;
-            }
-        }
-        return fitting;
+        return fitting(BY_WEIGHT, leaver, man, row, i, n);
     }
 
     public int absent(int man, int row, int i, int n) {
@@ -637,6 +593,38 @@ public final class LeftAlone {
             return found(PLACE);
         }
         return unfound(0);
+    }
+
+    /** KINDS, houses or WEIGHTS (bits) of a LEAVER by which a row tells what a MAN will FEEL. */
+    private int fitting(int by, int leaver, int man, int row, int i, int n) {
+        if (!isLeaver(leaver)) {
+            return BAD;
+        }
+        int refusal = refusalOfTold(man, row, i, n);
+        if (refusal != 0) {
+            return refusal;
+        }
+        int least = by == BY_HOUSE ? 0 : 1;
+        int most = by == BY_KIND ? WET : by == BY_HOUSE ? town.men - 1 : 9;
+        int those = 0;
+        for (int other = least; other <= most; other++) {
+            trial.copyFrom(town);
+            changeTrial(by, leaver, other);
+            if (trialFits(man, rows[row], i, n)) {
+                those |= 1 << other;
+            }
+        }
+        return those;
+    }
+
+    private void changeTrial(int by, int leaver, int other) {
+        if (by == BY_KIND) {
+            trial.kind[leaver] = other;
+        } else if (by == BY_HOUSE) {
+            trial.sendTo(leaver, other);
+        } else {
+            trial.weight[leaver] = other;
+        }
     }
 
     private boolean trialFits(int man, Row told, int i, int n) {

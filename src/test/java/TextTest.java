@@ -98,6 +98,8 @@ public final class TextTest {
         fault(LAW + MAN + "p9,99,9;", 11, 2);
         fault("d1,0;m0,0;p0,1,0;" + (char) 233, 17, 1);
         fault("d" + (char) 0 + ",0;", 1, 1);
+        fault(LAW + MAN + ONE + (char) 0, 17, 1);
+        fault(LAW + MAN + ONE + (char) 255, 17, 1);
     }
 
     private static void room() {
