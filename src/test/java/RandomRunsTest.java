@@ -5,7 +5,8 @@ import java.util.Random;
  * once; numbers as told mostly, beside them and far off now and then. Each answer must be the same.
  */
 public final class RandomRunsTest {
-    private static final int RUNS = 500, CALLS = 512;
+    /** An object is used for 512 calls at most; the dearest step makes fewer than 150. */
+    private static final int RUNS = 2000, CALLS = 512 - 150, LONGEST_TEXT = 130;
     private static final Due due = new Due("RandomRunsTest");
     private static Random random;
     private static LeftAlone x;
@@ -16,18 +17,19 @@ public final class RandomRunsTest {
             random = new Random(run);
             x = new LeftAlone();
             y = new Model();
-            int call = 0;
-            // Every third run knows faulty texts alone for a while, and so no TOWN.
-            while (call < CALLS) {
-                int before = call;
-                if (random.nextInt(60) == 0 || call == 0 && run % 3 != 0) {
-                    call += text(run, random.nextInt(3) == 0);
+            int before = due.asked();
+            // Every third run knows no TOWN for a while; every tenth comes to the last DAYS.
+            if (run % 3 != 0) {
+                text(run, random.nextInt(3) == 0);
+            }
+            while (due.asked() - before < CALLS) {
+                if (random.nextInt(60) == 0) {
+                    text(run, random.nextInt(3) == 0);
+                } else if (run % 10 == 0 && random.nextInt(3) == 0) {
+                    int n = near(20, 24);
+                    due.is(run + ": days", x.days(n), y.days(n));
                 } else {
                     step(run);
-                    call++;
-                }
-                if (call == before) {
-                    throw new IllegalStateException("no call");
                 }
             }
         }
@@ -67,7 +69,7 @@ public final class RandomRunsTest {
         return s.toString();
     }
 
-    private static int text(int run, boolean faulty) {
+    private static void text(int run, boolean faulty) {
         StringBuilder s = new StringBuilder(town());
         if (faulty) {
             for (int edits = upTo(2); edits >= 0 && s.length() > 0; edits--) {
@@ -80,14 +82,11 @@ public final class RandomRunsTest {
                 }
             }
         }
-        int calls = 0;
-        for (int i = 0; i < s.length(); i++) {
+        for (int i = 0; i < Math.min(s.length(), LONGEST_TEXT); i++) {
             due.is(run + ": feed", x.feed(s.charAt(i)), y.feed(s.charAt(i)));
-            calls++;
         }
         due.is(run + ": town of " + s, x.town(), y.town());
         due.is(run + ": fault of " + s, x.fault(), y.fault());
-        return calls + 2;
     }
 
     /** A ROW that tells what will be felt by a TOWN that is changed a little, so that answers differ. */
@@ -96,8 +95,7 @@ public final class RandomRunsTest {
         int n = 1 + upTo(11);
         int man = Math.max(0, y.count(1) - 1);
         man = man == 0 ? 0 : upTo(man);
-        x.row(row, 0, n + 2);
-        y.row(row, 0, n + 2);
+        due.is(run + ": row", x.row(row, 0, n + 2), y.row(row, 0, n + 2));
         int change = random.nextInt(4);
         int one = Math.max(0, Math.min(y.count(2) - 1, upTo(5)));
         int to = upTo(9);

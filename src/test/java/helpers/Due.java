@@ -3,16 +3,22 @@ final class Due {
     private final String test;
     private int wrong = 0;
     private int asked = 0;
+    private String sentence = "";
 
     Due(String test) {
         this.test = test;
+    }
+
+    /** The document's own words, by the promise that has them (0: the Terms), for what comes next. */
+    void says(int promise, String words) {
+        sentence = " [" + (promise == 0 ? "Terms" : "Promise " + promise) + ": " + words + "]";
     }
 
     void is(String call, long got, long want) {
         asked++;
         if (got != want) {
             wrong++;
-            System.out.println(test + ": " + call + " answered " + got + ", due is " + want);
+            System.out.println(test + ": " + call + " answered " + got + ", due is " + want + sentence);
         }
     }
 
@@ -20,8 +26,12 @@ final class Due {
         asked++;
         if (!so) {
             wrong++;
-            System.out.println(test + ": not so: " + what);
+            System.out.println(test + ": not so: " + what + sentence);
         }
+    }
+
+    int asked() {
+        return asked;
     }
 
     int wrong() {
@@ -50,6 +60,20 @@ final class Due {
             throw new IllegalStateException("no town: " + text);
         }
         return x;
+    }
+
+    /** Houses 0 .. 4 of this TOWN tell FEELS 0 .. 4 behind a DAY: by it ITEMS can be looked at. */
+    static final String LOOKING = "d1,0;m0,9;m2,0;m3,0;m4,0;m5,0;p0,1,0;";
+
+    /** What ITEM i of a ROW is, if it is 0 to 4 (in the TOWN LOOKING, on DAY 0); else -1. */
+    static int item(LeftAlone x, int row, int i) {
+        for (int man = 0; man < 5; man++) {
+            int fits = x.absent(man, row, i, 1);
+            if (fits >= 0 && (fits & 64) != 0) {
+                return man;
+            }
+        }
+        return -1;
     }
 
     /** Row 7 as ints with these ITEMS. */
