@@ -21,6 +21,7 @@ public final class EdgesOfActsTest {
         actsKept();
         oldestForgotten();
         latestFirst();
+        timesOfEach();
         undoNone();
         daysN();
         daysNoTown();
@@ -341,6 +342,49 @@ public final class EdgesOfActsTest {
         due.is("undo of SENT", y.undo(), 4);
         due.is("times as ahead", y.leaver(0, 5), 4);
         due.is("MAKES as ahead", y.leaver(0, 4), 5);
+    }
+
+    /** On DAYS 13 .. 17 each was away from the house of the DAY 2, 2, 3, 3, 3 times. */
+    private static void fiveDays(String what, LeftAlone x) {
+        int[] times = {2, 2, 3, 3, 3};
+        due.is(what + ": DAY", x.count(3), 13);
+        for (int day = 0; day < 5; day++) {
+            for (int one = 0; one < 6; one++) {
+                due.is(what + ": LEAVER " + one + ", DAY " + (13 + day), x.leaver(one, 5), times[day]);
+                due.is(what + ": house", x.leaver(one, 3), (one + 13 + day) % 5);
+            }
+            x.days(1);
+        }
+    }
+
+    private static void timesOfEach() {
+        due.says(0, "each can be undone, the latest first");
+        String text = "d1,0;m0,0;m0,0;m0,0;m0,0;m0,0;f0,1,1;f1,1,1;f2,1,1;f3,1,1;f4,1,1;f0,1,1;";
+        LeftAlone x = onDay(text, 13);
+        for (int one = 0; one < 6; one++) {
+            x.send(one, 0);
+        }
+        x.days(3);
+        for (int i = 0; i < 9; i++) {
+            x.undo();
+        }
+        fiveDays("undone", x);
+        LeftAlone y = onDay(text, 13);
+        y.image(1);
+        y.days(9);
+        for (int one = 0; one < 6; one++) {
+            y.send(one, 0);
+        }
+        y.restore(1);
+        fiveDays("restored", y);
+        LeftAlone z = onDay(text, 13);
+        LeftAlone later = onDay(text, 13);
+        for (int n = 0; n <= 10; n++) {
+            for (int man = 0; man < 5; man++) {
+                due.is("foretold by " + n, z.ahead(man, n), later.man(man, 0));
+            }
+            later.days(1);
+        }
     }
 
     private static void undoNone() {

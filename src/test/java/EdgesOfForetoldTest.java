@@ -36,6 +36,7 @@ public final class EdgesOfForetoldTest {
         rainOrMore();
         drawnNumbers();
         drawnBySeed();
+        drawnOfOne();
         images();
         noneKept();
         noActThen();
@@ -325,6 +326,9 @@ public final class EdgesOfForetoldTest {
         // To 1: 3 and 4; to 2: 0 and 8; to 0: 0 and 4.
         due.is("the last is best", y.bestHouse(0, 1, 0), 2);
         due.is("the last is best: how much", y.bestHouse(0, 1, 1), 8);
+        LeftAlone between = Due.of("d1,0;m0,9;m0,0;m0,9;p0,3,0;");
+        due.is("the one between", between.bestHouse(0, 1, 0), 1);
+        due.is("the one between: how much", between.bestHouse(0, 1, 1), 3);
         LeftAlone z = Due.of("d1,0;m0,9;m0,9;m0,9;m0,9;m0,9;p4,3,0;");
         due.is("nothing anywhere: the first", z.bestHouse(0, 60, 0), 0);
         due.is("nothing anywhere: how much", z.bestHouse(0, 60, 1), 0);
@@ -372,6 +376,9 @@ public final class EdgesOfForetoldTest {
         due.is("by how much", x.tells(1, 1), 1002);
         LeftAlone y = Due.of("d1,0;m0,0;p0,1,0;p0,1,0;p0,1,0;");
         due.is("all alike", y.tells(1, 0), 0);
+        LeftAlone between = Due.of("d1,0;m0,0;p0,1,0;p0,2,0;p0,1,0;");
+        due.is("the one between", between.tells(1, 0), 1);
+        due.is("the one between: by how much", between.tells(1, 1), 1002);
         LeftAlone z = Due.of("d1,0;m0,0;p0,1,0;p0,1,0;p0,1,0;p0,1,0;p0,1,0;p0,2,0;");
         due.is("the last", z.tells(1, 0), 5);
         due.is("the last: by how much", z.tells(1, 1), 1002);
@@ -625,6 +632,28 @@ public final class EdgesOfForetoldTest {
                 y.days(1);
             }
         }
+    }
+
+    private static void drawnOfOne() {
+        due.says(0, "the LEAVER who is the rest of X by how many there are is SENT to the house that is the rest of X by how many there are");
+        // From 4 X is 67228, which 4 parts: by 5 it leaves 3, by 1 nothing.
+        LeftAlone x = Due.of("d1,0;m0,0;m0,0;m0,0;m0,0;m0,0;p0,4,0;");
+        due.is("one LEAVER alone is SENT", x.drawn(1, 4, 0), 4);
+        x.patience(3, 9);
+        due.is("one LEAVER alone is SENT to 3", x.drawn(1, 4, 0), 0);
+        due.is("one LEAVER alone is SENT to 3, USED", x.drawn(1, 4, 1), 1);
+        // From 1 X is 16807, which 4 does not part.
+        due.is("nobody is SENT", x.drawn(1, 1, 0), 4);
+        LeftAlone y = Due.of("d1,0;m0,0;f0,1,0;");
+        y.days(3);
+        due.is("FEELS", y.count(4), 6);
+        due.is("nobody is SENT: 4 more", y.drawn(1, 1, 0), 10);
+        due.is("SENT to the one house there is, anew: 1 more", y.drawn(1, 4, 0), 7);
+        due.is("times stay", y.leaver(0, 5), 3);
+        LeftAlone z = Due.of("d1,0;m0,0;m0,0;p0,4,0;p0,4,0;p0,4,0;p0,4,0;p0,4,0;p0,4,0;");
+        z.patience(0, 9);
+        // By 6 it leaves 4, by 2 nothing: LEAVER 4 goes where he is.
+        due.is("one of six", z.drawn(1, 4, 0), 24);
     }
 
     private static void images() {

@@ -25,6 +25,7 @@ public final class EdgesOfTextTest {
         emptyThen();
         allStays();
         inPlace();
+        inPlaceBehindForetold();
         latestFault();
         due.end();
     }
@@ -109,6 +110,10 @@ public final class EdgesOfTextTest {
                 due.is(what, Due.read(x, other), fault[1] == 0 ? 1 : -1000100 - fault[0]);
                 due.is(what + ": fault()", x.fault(), fault[1]);
             }
+        }
+        for (int letter = 0; letter <= 255; letter++) {
+            // A leaver's letter can stand there, and its HOUSE is missing then.
+            faulty(text + (char) letter, "pfsiw".indexOf(letter) >= 0 ? 18 : 17, 1);
         }
     }
 
@@ -430,6 +435,43 @@ public final class EdgesOfTextTest {
         due.is("the same TOWN anew", Due.read(x, "d9,0;m20,1;f0,3,0;"), 1);
         due.is("times away", x.leaver(0, 5), 0);
         due.is("MAKES", x.leaver(0, 4), 3);
+    }
+
+    /** What is foretold of one TOWN is no part of the next. */
+    private static void inPlaceBehindForetold() {
+        due.says(0, "A TOWN that is read stands in place of the one before (none at first)");
+        for (int call = 0; call < 10; call++) {
+            LeftAlone x = Due.of("d2,3;m10,4;m5,1;m7,7;f0,5,0;f1,2,1;w2,2,1;");
+            x.days(4);
+            x.bar(0, 1);
+            x.row(0, 0, 1);
+            switch (call) {
+                case 0: x.ahead(0, 9); break;
+                case 1: x.fewest(1, 9, 99, 0); break;
+                case 2: x.tells(9, 1); break;
+                case 3: x.tells(9, 0); break;
+                case 4: x.absent(0, 0, 0, 1); break;
+                case 5: x.rain(0, 9, 5, 0); break;
+                case 6: x.weights(0, 0, 0, 0, 1); break;
+                case 7: x.drawn(9, 9, 0); break;
+                case 8: x.awayAhead(0, 9); break;
+                default: x.bestHouse(2, 9, 0); break;
+            }
+            String what = "behind call " + call + ": ";
+            due.is(what + "another TOWN", Due.read(x, "d1,0;m0,0;m0,0;f0,3,0;f1,3,0;f0,3,0;"), 3);
+            due.is(what + "DAY", x.count(3), 0);
+            due.is(what + "BARRED", x.count(5), 0);
+            for (int one = 0; one < 3; one++) {
+                due.is(what + "times of " + one, x.leaver(one, 5), 0);
+                due.is(what + "MAKES of " + one, x.leaver(one, 4), 3);
+            }
+            due.is(what + "away from 0", x.man(0, 3), 5);
+            due.is(what + "away from 1", x.man(1, 3), 2);
+            due.is(what + "a DAY", x.days(1), 9);
+            for (int one = 0; one < 3; one++) {
+                due.is(what + "times of " + one + " then", x.leaver(one, 5), 1);
+            }
+        }
     }
 
     private static void latestFault() {
