@@ -8,7 +8,9 @@ import java.util.ArrayList;
 import java.util.Arrays;
 import java.util.HashSet;
 import java.util.List;
+import java.util.Map;
 import java.util.Set;
+import java.util.TreeMap;
 import java.util.TreeSet;
 import java.util.regex.Matcher;
 import java.util.regex.Pattern;
@@ -36,7 +38,12 @@ public final class LanguageTest {
         face();
         constants();
         classesInside();
-        text();
+        String source = Files.readString(Path.of("src/main/java/LeftAlone.java"));
+        String code = source.replaceAll("(?s)/\\*.*?\\*/", "").replaceAll("//[^\n]*", "");
+        text(source, code);
+        library(code);
+        headings(source);
+        methods(code);
         due.end();
     }
 
@@ -114,14 +121,18 @@ public final class LanguageTest {
         }
     }
 
-    private static void text() throws Exception {
-        String source = Files.readString(Path.of("src/main/java/LeftAlone.java"));
-        String code = source.replaceAll("(?s)/\\*.*?\\*/", "").replaceAll("//[^\n]*", "");
+    private static void text(String source, String code) {
         for (String word : BARRED_WORDS) {
             String edge = Character.isLetter(word.charAt(0)) ? "\\b" : "";
             Matcher m = Pattern.compile(edge + Pattern.quote(word) + edge).matcher(code);
             due.holds("no " + word, !m.find());
         }
+        for (int i = 0; i < source.length(); i++) {
+            due.holds("signs 1 to 127 alone", source.charAt(i) > 0 && source.charAt(i) < 128);
+        }
+    }
+
+    private static void library(String code) {
         Matcher library = Pattern.compile("\\b(System|Math|Integer|Long|Arrays)\\.(\\w+)").matcher(code);
         Set<String> allowed = Set.of("System.arraycopy", "Math.min", "Math.max", "Integer.bitCount");
         while (library.find()) {
@@ -136,8 +147,54 @@ public final class LanguageTest {
                 due.holds("made with the object: " + line.trim(), kept);
             }
         }
-        for (int i = 0; i < source.length(); i++) {
-            due.holds("signs 1 to 127 alone", source.charAt(i) > 0 && source.charAt(i) < 128);
+    }
+
+    /** "Ahead of the calls .. the interface says": each heading, then its calls in their order. */
+    private static void headings(String source) {
+        String[][] told = {
+            {"rows", "row", "drop"}, {"what is told", "feed", "undo"}, {"what is done", "days", "man"},
+            {"foretold", "ahead", "restore"}, {"asked", "kind", "status"}};
+        int at = 0;
+        for (String[] part : told) {
+            for (String mark : new String[] {"// ---- " + part[0] + "\n", " " + part[1] + "(", " " + part[2] + "("}) {
+                at = source.indexOf(mark.startsWith("/") ? mark : "public int" + mark, at);
+                due.holds(mark.trim() + " in its place", at >= 0);
+                at = Math.max(at, 0);
+            }
         }
+        at = 0;
+        for (String call : FACE) {
+            int next = source.indexOf("public " + call.substring(0, call.indexOf('(') + 1));
+            due.holds(call + " in the order of the face", next > at);
+            at = next;
+        }
+    }
+
+    /** Methods are short, and calls that are no recursion go eight deep at most. */
+    private static void methods(String code) {
+        Map<String, String> bodies = new TreeMap<>();
+        Matcher m = Pattern.compile("(?m)^ +(?:public |private |static )*\\w+ (\\w+)\\([^;()]*\\) \\{$").matcher(code);
+        while (m.find()) {
+            String indent = m.group().replaceAll("\\S.*", "");
+            String body = code.substring(m.end(), code.indexOf("\n" + indent + "}", m.end()));
+            due.holds(m.group(1) + " is short", body.split("\n").length <= 60);
+            due.holds(m.group(1) + " is the only one of its name", bodies.put(m.group(1), body) == null);
+        }
+        due.holds("methods were found", bodies.size() >= FACE.length + 40);
+        for (String call : bodies.keySet()) {
+            int deep = depth(call, bodies, 0);
+            due.holds(call + " goes eight deep at most: " + deep, deep <= 8);
+        }
+    }
+
+    private static int depth(String name, Map<String, String> bodies, int open) {
+        int deepest = 0;
+        for (String other : bodies.keySet()) {
+            boolean called = Pattern.compile("\\b" + other + "\\(").matcher(bodies.get(name)).find();
+            if (called && !other.equals(name) && open < 20) {
+                deepest = Math.max(deepest, depth(other, bodies, open + 1));
+            }
+        }
+        return 1 + deepest;
     }
 }

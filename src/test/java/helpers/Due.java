@@ -1,5 +1,15 @@
+import java.io.IOException;
+import java.nio.file.Files;
+import java.nio.file.Path;
+import java.util.Set;
+import java.util.TreeSet;
+
 /** Prints every answer that is not the one that is due, and ends a test by it. */
 final class Due {
+    private static final Path DOCUMENT = Path.of("../shared/DOC.md");
+    private static final String DOCUMENT_TEXT = text();
+
+    private final Set<Integer> saidWhole = new TreeSet<>();
     private final String test;
     private int wrong = 0;
     private int asked = 0;
@@ -12,6 +22,39 @@ final class Due {
     /** The document's own words, by the promise that has them (0: the Terms), for what comes next. */
     void says(int promise, String words) {
         sentence = " [" + (promise == 0 ? "Terms" : "Promise " + promise) + ": " + words + "]";
+        String section = section(promise);
+        holds("the document has these words", section.isEmpty() || section.contains(words));
+        if (section.isEmpty() || section.endsWith("`: " + words)) {
+            saidWhole.add(promise);
+        }
+    }
+
+    /** Whether each promise, 1 to the last, was told with all of its words. */
+    void saidAll(int last) {
+        sentence = "";
+        for (int promise = 1; promise <= last; promise++) {
+            holds("Promise " + promise + " was told whole", saidWhole.contains(promise));
+        }
+        holds("Promise " + (last + 1) + " is none", section(last + 1).isEmpty());
+    }
+
+    /** Empty where the document is not there: then the tests do without it. */
+    private static String text() {
+        try {
+            return Files.exists(DOCUMENT) ? Files.readString(DOCUMENT) : "";
+        } catch (IOException e) {
+            return "";
+        }
+    }
+
+    private static String section(int promise) {
+        String head = promise == 0 ? "## Terms" : "## Promise " + promise + ":";
+        int start = DOCUMENT_TEXT.indexOf(head);
+        if (start < 0) {
+            return "";
+        }
+        int end = DOCUMENT_TEXT.indexOf("\n## ", start);
+        return DOCUMENT_TEXT.substring(start, end < 0 ? DOCUMENT_TEXT.length() : end).trim();
     }
 
     void is(String call, long got, long want) {
