@@ -31,6 +31,7 @@ public final class NothingChangesTest {
         fullDays();
         found();
         faults();
+        foretoldBehindOthers();
         due.says(0, "FORETOLD (nothing changes).");
         foretold();
         fittings();
@@ -313,6 +314,36 @@ public final class NothingChangesTest {
             seen.set(0, 0L);
             others.set(0, 0L);
             due.holds("a FAULT in '" + text + "' changes nothing", seen.equals(others));
+        }
+    }
+
+    private static final Call[] FORETELLINGS = {
+        x -> x.ahead(2, 9), x -> x.awayAhead(2, 9), x -> x.first(2), x -> x.reach(2, 99), x -> x.usual(2, 9),
+        x -> x.fewest(7, 9, 9, 0), x -> x.fewest(4, 9, 60, 1), x -> x.bestHouse(4, 9, 0), x -> x.bestHouse(0, 9, 1),
+        x -> x.tells(9, 0), x -> x.tells(9, 1), x -> x.who(0, 0, 0, 0, 1), x -> x.houses(2, 0, 0, 0, 1),
+        x -> x.weights(2, 0, 0, 0, 1), x -> x.absent(0, 0, 0, 1), x -> x.rain(2, 60, 3, 0), x -> x.drawn(60, 4, 0)};
+
+    /** What is foretold is of the TOWN that stands, whatever text or TOWN was read or told ahead of it. */
+    private static void foretoldBehindOthers() {
+        String[] faulty = {"d1,0;m0,0;p0,1,0;x", "d1,0;m0,0;m0,0;m0,0;m0,0;m0,0;p0,1,0;x", "x"};
+        for (int k = 0; k < FORETELLINGS.length; k++) {
+            Call call = FORETELLINGS[k];
+            due.says(7, "-1000100 less the place of a FAULT: all stays.");
+            long want = call.on(rich());
+            for (String text : faulty) {
+                LeftAlone x = rich();
+                x.town();
+                due.holds("a FAULT", Due.read(x, text) <= -1000100);
+                due.is("foretelling " + k + " behind a FAULT", call.on(x), want);
+            }
+            due.says(35, "The TOWN is as an IMAGE kept it");
+            LeftAlone other = rich();
+            other.image(1);
+            other.town();
+            Due.read(other, "d1,0;m0,0;p0,1,0;");
+            other.ahead(0, 60);
+            other.restore(1);
+            due.is("foretelling " + k + " behind another TOWN", call.on(other), want);
         }
     }
 
